@@ -74,10 +74,8 @@ public final class TwoLevelMinimizer {
     }
 
     public int begin() {
-        for (int k = 0; k < onCount; k++) {
-            coverInputs[k] = onInputs[k];
-            coverOutputs[k] = onOutputs[k];
-        }
+        copyFirst(onCount, onInputs, coverInputs);
+        copyFirst(onCount, onOutputs, coverOutputs);
         coverCount = onCount;
         currentPhase = WORKING;
         return coverCount;
@@ -87,6 +85,7 @@ public final class TwoLevelMinimizer {
         if (currentPhase == FEEDING) {
             return ERR_PHASE;
         }
+        // Each step settles at least one cube, so there is never need for more than MAX_CUBES.
         int pos = 0;
         for (int step = 0; step < MAX_CUBES && pos < coverCount; step++) {
             raiseInputs(pos);
@@ -401,18 +400,20 @@ public final class TwoLevelMinimizer {
     }
 
     private void saveCover() {
-        for (int k = 0; k < coverCount; k++) {
-            savedInputs[k] = coverInputs[k];
-            savedOutputs[k] = coverOutputs[k];
-        }
+        copyFirst(coverCount, coverInputs, savedInputs);
+        copyFirst(coverCount, coverOutputs, savedOutputs);
         savedCount = coverCount;
     }
 
     private void restoreCover() {
-        for (int k = 0; k < savedCount; k++) {
-            coverInputs[k] = savedInputs[k];
-            coverOutputs[k] = savedOutputs[k];
-        }
+        copyFirst(savedCount, savedInputs, coverInputs);
+        copyFirst(savedCount, savedOutputs, coverOutputs);
         coverCount = savedCount;
+    }
+
+    private static void copyFirst(int count, int[] from, int[] to) {
+        for (int k = 0; k < count; k++) {
+            to[k] = from[k];
+        }
     }
 }

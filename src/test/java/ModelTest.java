@@ -6,9 +6,7 @@ public final class ModelTest {
         65535, 65536, 1 << 30, Integer.MAX_VALUE - 1, Integer.MAX_VALUE
     };
 
-    // A fixed sequence, so that every run of the test makes the same calls.
-    private static long state = 20261115L;
-
+    private final Sequence numbers = new Sequence(20261115L);
     private TwoLevelMinimizer x;
     private Model y;
     private int n;
@@ -26,9 +24,8 @@ public final class ModelTest {
         check.end();
     }
 
-    private static int below(int bound) {
-        state = state * 6364136223846793005L + 1442695040888963407L;
-        return (int) ((state >>> 33) % bound);
+    private int below(int bound) {
+        return numbers.below(bound);
     }
 
     private void oneRun(int number) {
@@ -59,34 +56,21 @@ public final class ModelTest {
         }
     }
 
-    private int part(int dashes) {
-        int part = 0;
-        for (int i = 0; i < n; i++) {
-            int field = below(10) < dashes ? 3 : 1 + below(2);
-            part |= field << (2 * i);
-        }
-        return part;
-    }
-
-    private int mask() {
-        return 1 + below((1 << q) - 1);
-    }
-
     private void feed() {
         int dashes = below(8);
         int ons = below(cap + 2);
         int dcs = below(3) == 0 ? below(cap + 2) : below(4);
         for (int k = 0; k < ons; k++) {
-            int part = part(dashes);
-            int mask = mask();
+            int part = numbers.part(n, dashes);
+            int mask = numbers.mask(q);
             due("addOn(" + part + ", " + mask + ")", x.addOn(part, mask), y.addOn(part, mask));
             if (below(4) == 0) {
                 due("addOn again", x.addOn(part, mask), y.addOn(part, mask));
             }
         }
         for (int k = 0; k < dcs; k++) {
-            int part = part(dashes - 1);
-            int mask = mask();
+            int part = numbers.part(n, dashes - 1);
+            int mask = numbers.mask(q);
             due("addDc(" + part + ", " + mask + ")", x.addDc(part, mask), y.addDc(part, mask));
         }
         wrongCalls();
@@ -153,8 +137,8 @@ public final class ModelTest {
             }
         }
         for (int call = 0; call < 4; call++) {
-            int part = part(3);
-            int mask = mask();
+            int part = numbers.part(n, 3);
+            int mask = numbers.mask(q);
             due("isImplicant(" + part + ", " + mask + ")",
                     x.isImplicant(part, mask) ? 1 : 0, y.isImplicant(part, mask) ? 1 : 0);
         }

@@ -11,6 +11,15 @@ final class Cubes {
         return part;
     }
 
+    /** The input part that has the same field at every input. */
+    static int every(int inputs, int field) {
+        int part = 0;
+        for (int i = 0; i < inputs; i++) {
+            part |= field << (2 * i);
+        }
+        return part;
+    }
+
     private static int mask(String cube) {
         return Integer.parseInt(cube.substring(cube.indexOf('/') + 1));
     }
@@ -19,18 +28,25 @@ final class Cubes {
         return cube.substring(0, cube.indexOf('/'));
     }
 
-    /** A minimizer that holds the named cubes, each list parted by blanks, still FEEDING. */
-    static TwoLevelMinimizer fed(int outputs, String on, String dc) {
-        int inputs = on.indexOf('/');
-        TwoLevelMinimizer x = new TwoLevelMinimizer(inputs, outputs, 16);
-        for (String cube : on.split(" ")) {
+    private static String[] each(String cubes) {
+        return cubes.isEmpty() ? new String[0] : cubes.split(" ");
+    }
+
+    /** Adds the named cubes, each list parted by blanks. */
+    static void feed(TwoLevelMinimizer x, String on, String dc) {
+        for (String cube : each(on)) {
             x.addOn(part(inputs(cube)), mask(cube));
         }
-        if (!dc.isEmpty()) {
-            for (String cube : dc.split(" ")) {
-                x.addDc(part(inputs(cube)), mask(cube));
-            }
+        for (String cube : each(dc)) {
+            x.addDc(part(inputs(cube)), mask(cube));
         }
+    }
+
+    /** A minimizer that holds the named cubes, still FEEDING; at least one of them tells how many inputs there are. */
+    static TwoLevelMinimizer fed(int outputs, String on, String dc) {
+        int inputs = (on.isEmpty() ? dc : on).indexOf('/');
+        TwoLevelMinimizer x = new TwoLevelMinimizer(inputs, outputs, 16);
+        feed(x, on, dc);
         return x;
     }
 

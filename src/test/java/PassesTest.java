@@ -3,8 +3,6 @@ public final class PassesTest {
     private static final Check check = new Check("PassesTest");
 
     public static void main(String[] args) {
-        refusedWhileFeeding();
-        emptyCover();
         passesKeepTheFunction();
         expandInputsInOrder();
         expandOutputsAfterInputs();
@@ -23,33 +21,6 @@ public final class PassesTest {
         improveRestores();
         exampleOfTheReadme();
         check.end();
-    }
-
-    private static void refusedWhileFeeding() {
-        TwoLevelMinimizer x = Cubes.fed(2, "00/1 0-/1 --/1", "11/2");
-        for (int round = 0; round < 2; round++) {
-            String before = Seen.all(x);
-            check.due("FEEDING: expand()", x.expand(), -1);
-            check.due("FEEDING: irredundant()", x.irredundant(), -1);
-            check.due("FEEDING: reduce()", x.reduce(), -1);
-            check.due("FEEDING: improve()", x.improve(), -1);
-            check.due("after refused passes", Seen.all(x), before);
-            x.begin();
-            x.expand();
-            x.clear();
-        }
-    }
-
-    private static void emptyCover() {
-        TwoLevelMinimizer x = new TwoLevelMinimizer(3, 2, 4);
-        x.addDc(63, 3);
-        x.begin();
-        String before = Seen.all(x);
-        check.due("empty: expand()", x.expand(), 0);
-        check.due("empty: irredundant()", x.irredundant(), 0);
-        check.due("empty: reduce()", x.reduce(), 0);
-        check.due("empty: improve()", x.improve(), 0);
-        check.due("the empty cover after the passes", Seen.all(x), before);
     }
 
     private static void passesKeepTheFunction() {

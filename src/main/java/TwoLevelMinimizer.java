@@ -99,10 +99,9 @@ public final class TwoLevelMinimizer {
         if (currentPhase == FEEDING) {
             return ERR_PHASE;
         }
-        // Each step settles one cube, kept or removed, so the first count is the number of steps.
-        int steps = coverCount;
+        // As in expand, each step settles a cube: it is kept or removed.
         int pos = 0;
-        for (int step = 0; step < steps; step++) {
+        for (int step = 0; step < MAX_CUBES && pos < coverCount; step++) {
             if (hasOwnPoint(pos)) {
                 pos++;
             } else {
@@ -116,10 +115,9 @@ public final class TwoLevelMinimizer {
         if (currentPhase == FEEDING) {
             return ERR_PHASE;
         }
-        // As in irredundant, each step settles one cube.
-        int steps = coverCount;
+        // As in expand, each step settles a cube: it is shrunk or removed.
         int pos = 0;
-        for (int step = 0; step < steps; step++) {
+        for (int step = 0; step < MAX_CUBES && pos < coverCount; step++) {
             if (shrinkToOwnPoints(pos)) {
                 pos++;
             } else {

@@ -19,7 +19,6 @@ public final class PassesTest {
         improveByLiterals();
         improveCountsBeforeLiterals();
         improveRestores();
-        exampleOfTheReadme();
         check.end();
     }
 
@@ -258,22 +257,5 @@ public final class PassesTest {
         // They would give 1/3, which costs as much.
         x = Cubes.begun(2, "1/2", "1/1");
         after("improve()", x, 0, 1, "1/2");
-    }
-
-    private static void exampleOfTheReadme() {
-        TwoLevelMinimizer x = new TwoLevelMinimizer(3, 1, 16);
-        check.due("README: addOn", x.addOn(0b100110, 1), 0);
-        check.due("README: addOn", x.addOn(0b010110, 1), 1);
-        check.due("README: addDc", x.addDc(0b101010, 1), 0);
-        check.due("README: begin()", x.begin(), 2);
-        check.due("README: expand()", x.expand(), 2);
-        check.due("README: irredundant()", x.irredundant(), 1);
-        check.due("README: improve()", x.improve(), 0);
-        check.due("README: cubeCount()", x.cubeCount(), 1);
-        check.due("README: cubeInputs(0)", x.cubeInputs(0), 0b110110);
-        check.due("README: cubeOutputs(0)", x.cubeOutputs(0), 1);
-        check.due("README: literalCount()", x.literalCount(), 2);
-        check.due("README: evaluate(0b001, 0)", x.evaluate(0b001, 0), 1);
-        check.due("README: function(0b111, 0)", x.function(0b111, 0), 2);
     }
 }

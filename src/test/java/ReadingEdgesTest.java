@@ -2,7 +2,7 @@ import java.util.List;
 import java.util.function.Consumer;
 import java.util.function.Function;
 
-/** Promises 10 to 16 and the terms: each sentence of theirs that names a boundary case has a test of its own. */
+/** Promises 10 to 16: each sentence of theirs that names a boundary case has a test of its own. */
 public final class ReadingEdgesTest {
     private static final Check check = new Check("ReadingEdgesTest");
     private static final int LEAST = Integer.MIN_VALUE;
@@ -35,7 +35,6 @@ public final class ReadingEdgesTest {
         thePoints("15: function", TwoLevelMinimizer::function);
         theFunction();
         implicants();
-        containing();
         nothingChanges();
         check.end();
     }
@@ -697,61 +696,6 @@ public final class ReadingEdgesTest {
         }
         x.clear();
         check.due("cleared: --/1", x.isImplicant(Cubes.part("--"), 1), false);
-    }
-
-    // The terms
-
-    private static void containing() {
-        check.sentence("CONTAINS: for every i<n, bit (2i + bit i of m) of I", ReadingEdgesTest::everyInputCounts);
-        check.sentence("CONTAINS: bit o of O", ReadingEdgesTest::everyOutputCounts);
-        check.sentence("VALID: the document's example, 54", ReadingEdgesTest::exampleOfTheDocument);
-    }
-
-    private static void everyInputCounts() {
-        for (int n = 1; n <= 8; n++) {
-            for (int i = 0; i < n; i++) {
-                for (int field = 1; field <= 3; field++) {
-                    TwoLevelMinimizer x = new TwoLevelMinimizer(n, 1, 4);
-                    x.addOn((Cubes.every(n, 3) & ~(3 << (2 * i))) | (field << (2 * i)), 1);
-                    x.begin();
-                    for (int m = 0; m < 1 << n; m++) {
-                        int due = (field >> ((m >> i) & 1)) & 1;
-                        String where = "n = " + n + ", field " + i + " is " + field + ", minterm " + m;
-                        check.due(where + ": evaluate", x.evaluate(m, 0), due);
-                        check.due(where + ": function", x.function(m, 0), due);
-                    }
-                }
-            }
-        }
-    }
-
-    private static void everyOutputCounts() {
-        for (int q = 1; q <= 4; q++) {
-            for (int mask = 1; mask < 1 << q; mask++) {
-                TwoLevelMinimizer x = new TwoLevelMinimizer(1, q, 4);
-                x.addOn(1, mask);
-                x.addDc(2, mask);
-                x.begin();
-                for (int o = 0; o < q; o++) {
-                    int bit = (mask >> o) & 1;
-                    check.due("mask " + mask + ": evaluate(0, " + o + ")", x.evaluate(0, o), bit);
-                    check.due("mask " + mask + ": function(0, " + o + ")", x.function(0, o), bit);
-                    check.due("mask " + mask + ": function(1, " + o + ")", x.function(1, o), 2 * bit);
-                }
-            }
-        }
-    }
-
-    private static void exampleOfTheDocument() {
-        // x0 x1': the minterms 1 and 5, for x2 is absent.
-        TwoLevelMinimizer x = new TwoLevelMinimizer(3, 1, 4);
-        check.due("addOn(54, 1)", x.addOn(54, 1), 0);
-        check.due("F", Seen.function(x), "01000100");
-        x.begin();
-        check.due("the cover", Cubes.cover(x, 3), "10-/1");
-        check.due("the cover's points", Seen.evaluation(x), "01000100");
-        check.due("literalCount()", x.literalCount(), 2);
-        check.due("isImplicant(54, 1)", x.isImplicant(54, 1), true);
     }
 
     // Promises 10 to 16: none of the reading calls changes anything
